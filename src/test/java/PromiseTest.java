@@ -39,6 +39,8 @@ public final class PromiseTest {
         overOn();
         meanRate();
         digest();
+        lastOfAll();
+        manyCorrections();
         throwingChangesNothing();
         C.end();
     }
@@ -301,10 +303,10 @@ public final class PromiseTest {
         C.index("9: none to drop", () -> h.dropRule(0));
         h.rule(true, 700);
         h.aim(0, 1, 0, 0);
-        h.time(0, 3, 3, 0, 0, 1);
+        h.time(0, 5, 5, 2, 1, 2);
         h.dropRule(0);
         h.rule(true, 800);
-        C.is("9: a new rule has nothing of a dropped one", h.rate(0, 59), 800);
+        C.is("9: a new rule has nothing of a dropped one", h.ofEntry(0, 7), 800);
     }
 
     private static void entry() {
@@ -493,6 +495,7 @@ public final class PromiseTest {
         C.is("14: the sum over the minutes", h.ofEntry(0, 7), (20 * 6000 + 25 * 50000) / 60);
         h.setStep(0, 30, 0);
         C.is("14: times rounded, by its length", h.ofEntry(0, 7), (20 * 6000 + 25 * 50000) * 60 / (60 * 50));
+        parts();
         Hourbook most = new Hourbook();
         most.project(0, false);
         most.rule(true, 50000);
@@ -509,6 +512,27 @@ public final class PromiseTest {
         C.is("14: the greatest total", most.wouldBill(0, 364), 1440000000);
         C.is("14: the greatest loss", most.without(0), -720000000);
         C.is("14: the greatest mean", most.meanRate(), 500000.0);
+    }
+
+    /** Ten rules that all begin and end inside of one entry, each at a minute of its own: 21 rates. */
+    private static void parts() {
+        Hourbook h = new Hourbook();
+        h.project(0, false);
+        h.entry(0, 0, 0, 0, 0, 1440);
+        for (int k = 0; k < 10; k++) {
+            h.rule(true, 600 * (k + 1));
+            h.time(k, 0, 364, 0, 100 - 10 * k, 101 + 10 * k);
+        }
+        int due = 10;
+        for (int k = 1; k < 10; k++) {
+            due += 20 * 10 * (k + 1);
+        }
+        C.is("14: as many rates as there can be", h.ofEntry(0, 7), due);
+        for (int k = 0; k < 10; k++) {
+            h.time(k, 0, 364, 0, 1100 + 20 * k, 1110 + 20 * k);
+        }
+        C.is("14: one behind the other", h.ofEntry(0, 7), 10 * 10 * 55);
+        C.is("14: each of them counts", h.without(9), -1000);
     }
 
     private static void charges() {
@@ -842,14 +866,15 @@ public final class PromiseTest {
         h.entry(5, 0, 0, 3, 0, 36);
         h.entry(1, 0, 2, 4, 0, 60);
         h.entry(2, 0, 2, 9, 0, 60);
+        h.entry(0, 0, 0, 4, 100, 120);
         C.index("22: bill 0, and a wrong what", () -> h.line(0, 0, 4));
         h.bill(0, 4);
         C.index("22: line -1", () -> h.line(0, -1, 0));
-        C.index("22: line 4, and a wrong what", () -> h.line(0, 4, 4));
+        C.index("22: line 5, and a wrong what", () -> h.line(0, 5, 4));
         C.index("22: bill 1", () -> h.line(1, 0, 0));
         C.argument("22: what -1", () -> h.line(0, 0, -1));
-        C.argument("22: what 4", () -> h.line(0, 3, 4));
-        int[][] due = {{0, 1, 20, 2000}, {0, 3, 0, 0}, {1, 2, 60, 0}, {5, 0, 70, 7000}};
+        C.argument("22: what 4", () -> h.line(0, 4, 4));
+        int[][] due = {{0, 0, 20, 0}, {0, 1, 20, 2000}, {0, 3, 0, 0}, {1, 2, 60, 0}, {5, 0, 70, 7000}};
         lines(h, "then", due);
         h.setStep(0, 1, 0);
         h.change(0, 0, 1);
@@ -956,6 +981,7 @@ public final class PromiseTest {
         C.is("26: the first one", h.overOn(0), 200);
         h.entry(0, 1, 0, 0, 0, 1);
         C.is("26: of this project", h.overOn(0), 200);
+        h.entry(0, 1, 0, 1, 0, 1);
         C.is("26: of the other one, on day 0", h.overOn(1), 0);
         h.bill(0, 200);
         C.is("26: not one that is billed", h.overOn(0), 300);
@@ -1005,6 +1031,75 @@ public final class PromiseTest {
             d = d * 31 + x;
         }
         return d;
+    }
+
+    /** What has the greatest number that there can be, and what has one more. */
+    private static void lastOfAll() {
+        Hourbook h = new Hourbook();
+        for (int k = 0; k < 6; k++) {
+            h.project(0, false);
+        }
+        h.rule(true, 6000);
+        for (int k = 0; k < 60; k++) {
+            h.entry(5, 5, 3, k, 0, 60);
+        }
+        Check.Call[] ofProject6 = {() -> h.setBudget(6, 0, true), () -> h.setStep(6, 1, 0), () -> h.setTerms(6, 0, 0),
+            () -> h.entry(0, 6, 0, 0, 0, 1), () -> h.ofProject(6, 0), () -> h.bill(6, 0), () -> h.wouldBill(6, 0),
+            () -> h.overOn(6)};
+        for (int k = 0; k < ofProject6.length; k++) {
+            C.index("there is no project 6, " + k, ofProject6[k]);
+        }
+        Check.Call[] ofEntry60 = {() -> h.change(60, 0, 1), () -> h.take(60), () -> h.ofEntry(60, 0),
+            () -> h.rate(60, 0), () -> h.why(60, 0)};
+        for (int k = 0; k < ofEntry60.length; k++) {
+            C.index("there is no entry 60, " + k, ofEntry60[k]);
+        }
+        C.is("17: project 5", h.ofProject(5, 1), 360000);
+        C.is("14: entry 59", h.ofEntry(59, 3), 59);
+        for (int k = 0; k < 20; k++) {
+            h.bill(5, k == 19 ? 364 : k);
+        }
+        Check.Call[] ofBill20 = {() -> h.takeBack(20), () -> h.ofBill(20, 0), () -> h.line(20, 0, 0)};
+        for (int k = 0; k < ofBill20.length; k++) {
+            C.index("there is no bill 20, " + k, ofBill20[k]);
+        }
+        C.is("22: the last of the people and kinds", h.line(19, 0, 3), 41 * 6000);
+        C.is("22: who", h.line(19, 0, 0), 5);
+        C.is("22: what kind", h.line(19, 0, 1), 3);
+        C.is("11: entry 59", h.change(59, 0, 50), -1000);
+        C.is("20: the last one", h.takeBack(19), 41);
+        C.is("20: entry 59 has no correction any more", h.ofProject(5, 5), 0);
+    }
+
+    private static void manyCorrections() {
+        Hourbook h = plain();
+        for (int k = 0; k < 60; k++) {
+            h.entry(0, 0, 0, k, 0, 60);
+        }
+        h.bill(0, 59);
+        h.change(5, 0, 50);
+        h.change(58, 0, 40);
+        h.change(59, 0, 90);
+        C.is("23: the sum of them", h.wouldBill(0, 0), 0);
+        h.change(59, 0, 100);
+        C.is("23: the sum of them and one more", h.wouldBill(0, 0), 1000);
+        h.bill(0, 0);
+        C.is("21: the sum of them", h.ofBill(1, 6), 1000);
+        C.is("21: net has them all", h.ofBill(1, 2), 1000);
+        C.is("20: no entries are its own", h.takeBack(1), 0);
+        C.is("20: all wait again", h.ofProject(0, 5), 1000);
+        h.bill(0, 0);
+        C.is("21: the sum of them again", h.ofBill(2, 6), 1000);
+        Hourbook none = plain();
+        none.entry(0, 0, 0, 0, 0, 60);
+        none.entry(0, 0, 1, 1, 0, 60);
+        none.bill(0, 0);
+        C.is("22: the first of the people and kinds", none.line(0, 0, 3), 6000);
+        none.bill(0, 1);
+        none.takeBack(1);
+        none.take(1);
+        C.state("20: a bill without corrections gives none back", () -> none.bill(0, 364));
+        C.is("22: the other lines stay", none.ofBill(0, 1), 1);
     }
 
     private static void throwingChangesNothing() {
