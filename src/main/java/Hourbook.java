@@ -93,10 +93,11 @@ public final class Hourbook {
         if (!isEffect(isFix, n)) {
             throw new IllegalArgumentException("no such rate or percents");
         }
-        if (rules.isFull()) {
+        int number = rules.add(isFix, n);
+        if (number < 0) {
             throw new IllegalStateException("too many rules");
         }
-        return rules.add(isFix, n);
+        return number;
     }
 
     public int aim(int rule, int person, int project, int kind)
@@ -763,11 +764,11 @@ public final class Hourbook {
             return isWithin(number, 0, count - 1) ? rows[number] : null;
         }
 
-        boolean isFull() {
-            return count >= rows.length;
-        }
-
+        /** Its number; -1 if there is no room for it. */
         int add(boolean isFix, int n) {
+            if (count >= rows.length) {
+                return -1;
+            }
             rows[count].begin(isFix, n);
             count++;
             return count - 1;
