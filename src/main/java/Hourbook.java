@@ -802,7 +802,7 @@ public final class Hourbook {
                 Rule r = rows[k];
                 if ((met >> k & 1) == 1 && r.meetsMinute(minute) && !(r.isFix && isFixed)) {
                     set |= 1 << k;
-                    isFixed |= r.isFix;
+                    isFixed = isFixed || r.isFix;
                 }
             }
             return set;

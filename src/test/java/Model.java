@@ -4,7 +4,7 @@ import java.util.List;
 import java.util.TreeMap;
 
 /** The document word for word, minute by minute, with no eye to speed: what Hourbook is compared with. */
-final class Model {
+final class Model extends Book {
     static final class Project {
         int budget, step = 1, way, discount, tax;
         boolean isHard;
@@ -39,6 +39,7 @@ final class Model {
     final List<Correction> corrections = new ArrayList<>();
     final List<Bill> bills = new ArrayList<>();
 
+    @Override
     int project(int budget, boolean isHard) {
         argument(budget >= 0 && budget <= 10000000);
         state(projects.size() < 6);
@@ -49,6 +50,7 @@ final class Model {
         return projects.size() - 1;
     }
 
+    @Override
     int setBudget(int project, int budget, boolean isHard) {
         index(has(projects, project));
         argument(budget >= 0 && budget <= 10000000);
@@ -59,6 +61,7 @@ final class Model {
         return before;
     }
 
+    @Override
     int setStep(int project, int step, int way) {
         index(has(projects, project));
         argument(List.of(1, 5, 6, 10, 15, 30).contains(step) && way >= 0 && way <= 2);
@@ -69,6 +72,7 @@ final class Model {
         return before;
     }
 
+    @Override
     int setTerms(int project, int discount, int tax) {
         index(has(projects, project));
         argument(discount >= 0 && discount <= 100 && tax >= 0 && tax <= 100);
@@ -79,6 +83,7 @@ final class Model {
         return before;
     }
 
+    @Override
     int rule(boolean isFix, int n) {
         argument(isEffect(isFix, n));
         state(rules.size() < 10);
@@ -89,6 +94,7 @@ final class Model {
         return rules.size() - 1;
     }
 
+    @Override
     int aim(int rule, int person, int project, int kind) {
         index(has(rules, rule));
         argument(person >= -1 && person <= 5 && project >= -1 && project <= 5 && kind >= -1 && kind <= 3);
@@ -99,6 +105,7 @@ final class Model {
         return rule;
     }
 
+    @Override
     int time(int rule, int firstDay, int lastDay, int which, int from, int to) {
         index(has(rules, rule));
         argument(firstDay >= 0 && firstDay <= 364 && lastDay >= firstDay && lastDay <= 364
@@ -112,12 +119,14 @@ final class Model {
         return rule;
     }
 
+    @Override
     int dropRule(int rule) {
         index(has(rules, rule));
         rules.remove(rule);
         return rules.size();
     }
 
+    @Override
     int entry(int person, int project, int kind, int day, int from, int to) {
         index(has(projects, project));
         argument(person >= 0 && person <= 5 && kind >= 0 && kind <= 3 && day >= 0 && day <= 364
@@ -135,6 +144,7 @@ final class Model {
         return e.number;
     }
 
+    @Override
     int change(int entry, int from, int to) {
         index(isThere(entry));
         argument(areMinutes(from, to));
@@ -153,6 +163,7 @@ final class Model {
         return c.cents;
     }
 
+    @Override
     int take(int entry) {
         index(isThere(entry));
         state(entries.get(entry).bill < 0);
@@ -160,11 +171,13 @@ final class Model {
         return there().size();
     }
 
+    @Override
     int many(int what) {
         argument(what >= 0 && what <= 3);
         return new int[] {projects.size(), rules.size(), there().size(), bills.size()}[what];
     }
 
+    @Override
     int ofEntry(int entry, int what) {
         index(isThere(entry));
         argument(what >= 0 && what <= 10);
@@ -184,6 +197,7 @@ final class Model {
         }
     }
 
+    @Override
     int rate(int entry, int minute) {
         index(isThere(entry));
         Entry e = entries.get(entry);
@@ -191,6 +205,7 @@ final class Model {
         return rate(e, minute);
     }
 
+    @Override
     int why(int entry, int minute) {
         index(isThere(entry));
         Entry e = entries.get(entry);
@@ -207,6 +222,7 @@ final class Model {
         return sum;
     }
 
+    @Override
     int ofProject(int project, int what) {
         index(has(projects, project));
         argument(what >= 0 && what <= 5);
@@ -227,6 +243,7 @@ final class Model {
         return new int[] {lengths, all, open, budget == 0 ? 0 : budget - all, over, waiting}[what];
     }
 
+    @Override
     int worked(int person, int firstDay, int lastDay) {
         argument(person >= 0 && person <= 5 && firstDay >= 0 && firstDay <= 364 && lastDay >= 0 && lastDay <= 364);
         int sum = 0;
@@ -236,6 +253,7 @@ final class Model {
         return sum;
     }
 
+    @Override
     int bill(int project, int lastDay) {
         index(has(projects, project));
         argument(lastDay >= 0 && lastDay <= 364);
@@ -255,6 +273,7 @@ final class Model {
         return bills.size() - 1;
     }
 
+    @Override
     int takeBack(int bill) {
         index(has(bills, bill));
         Bill b = bills.get(bill);
@@ -288,6 +307,7 @@ final class Model {
         return freed;
     }
 
+    @Override
     int ofBill(int bill, int what) {
         index(has(bills, bill));
         argument(what >= 0 && what <= 7);
@@ -300,12 +320,14 @@ final class Model {
             b.isTakenBack ? 1 : 0}[what];
     }
 
+    @Override
     int line(int bill, int line, int what) {
         index(has(bills, bill) && line >= 0 && line < bills.get(bill).lines.size());
         argument(what >= 0 && what <= 3);
         return new ArrayList<>(bills.get(bill).lines.values()).get(line)[what];
     }
 
+    @Override
     int wouldBill(int project, int lastDay) {
         index(has(projects, project));
         argument(lastDay >= 0 && lastDay <= 364);
@@ -316,6 +338,7 @@ final class Model {
         return b.net - b.less + b.tax;
     }
 
+    @Override
     int without(int rule) {
         index(has(rules, rule));
         int with = amounts();
@@ -325,6 +348,7 @@ final class Model {
         return without - with;
     }
 
+    @Override
     int amountsWith(int rule, int n) {
         index(has(rules, rule));
         argument(isEffect(rules.get(rule).isFix, n));
@@ -335,6 +359,7 @@ final class Model {
         return sum;
     }
 
+    @Override
     int overOn(int project) {
         index(has(projects, project));
         int[][] charges = charges(project);
@@ -346,6 +371,7 @@ final class Model {
         return -1;
     }
 
+    @Override
     double meanRate() {
         double lengths = 0;
         for (Entry e : there()) {
@@ -354,6 +380,7 @@ final class Model {
         return lengths == 0 ? 0 : 60.0 * amounts() / lengths;
     }
 
+    @Override
     long digest() {
         List<Integer> xs = new ArrayList<>();
         for (int what = 0; what <= 3; what++) {

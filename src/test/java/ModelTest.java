@@ -5,7 +5,7 @@ public final class ModelTest {
 
     private final Check check = new Check("ModelTest");
     private long seed;
-    private Hourbook book;
+    private Real book;
     private Model model;
     private int run;
     private int call;
@@ -22,7 +22,7 @@ public final class ModelTest {
     private void oneRun(int number) {
         run = number;
         seed = 88172645463325252L + 7919L * number;
-        book = new Hourbook();
+        book = new Real();
         model = new Model();
         days = pick(3) == 0 ? 365 : 4 + pick(20);
         int projects = 1 + pick(6);

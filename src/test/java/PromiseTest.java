@@ -46,28 +46,28 @@ public final class PromiseTest {
     }
 
     /** One project without a budget, and one rule of 6000 for an hour: 100 for a minute. */
-    private static Hourbook plain() {
-        Hourbook h = new Hourbook();
+    private static Real plain() {
+        Real h = new Real();
         h.project(0, false);
         h.rule(true, 6000);
         return h;
     }
 
     private static void newObject() {
-        Hourbook h = new Hourbook();
+        Real h = new Real();
         for (int what = 0; what <= 3; what++) {
             C.is("1: many(" + what + ") of a new book", h.many(what), 0);
         }
         C.index("1: no project 0", () -> h.overOn(0));
         C.is("1: meanRate of a new book", h.meanRate(), 0.0);
         C.is("1: digest of a new book", h.digest(), 58079L * 31 * 31 * 31 * 31);
-        Hourbook other = new Hourbook();
+        Real other = new Real();
         other.project(0, false);
         C.is("1: books have nothing in common", h.many(0), 0);
     }
 
     private static void project() {
-        Hourbook h = new Hourbook();
+        Real h = new Real();
         C.argument("2: budget -1", () -> h.project(-1, false));
         C.argument("2: budget 10000001", () -> h.project(10000001, true));
         C.is("2: none is there yet", h.many(0), 0);
@@ -93,7 +93,7 @@ public final class PromiseTest {
     }
 
     private static int hardCharge(boolean isHard) {
-        Hourbook h = new Hourbook();
+        Real h = new Real();
         h.project(1000, isHard);
         h.rule(true, 6000);
         h.entry(0, 0, 0, 0, 0, 60);
@@ -101,7 +101,7 @@ public final class PromiseTest {
     }
 
     private static void setBudget() {
-        Hourbook h = plain();
+        Real h = plain();
         h.entry(0, 0, 0, 0, 0, 60);
         C.index("3: project -1", () -> h.setBudget(-1, 0, true));
         C.index("3: project 1, and a wrong budget", () -> h.setBudget(1, -1, true));
@@ -119,7 +119,7 @@ public final class PromiseTest {
     }
 
     private static void setStep() {
-        Hourbook h = plain();
+        Real h = plain();
         h.entry(0, 0, 0, 0, 0, 15);
         C.index("4: project 1, and a wrong step", () -> h.setStep(1, 2, 0));
         C.index("4: project -1", () -> h.setStep(-1, 5, 0));
@@ -145,7 +145,7 @@ public final class PromiseTest {
         rounds(h, "1 of any way", 1, 1, new int[] {1, 7, 1440}, new int[] {1, 7, 1440});
     }
 
-    private static void rounds(Hourbook h, String title, int step, int way, int[] lengths, int[] due) {
+    private static void rounds(Real h, String title, int step, int way, int[] lengths, int[] due) {
         h.setStep(0, step, way);
         for (int k = 0; k < lengths.length; k++) {
             h.change(0, 0, lengths[k]);
@@ -155,7 +155,7 @@ public final class PromiseTest {
     }
 
     private static void setTerms() {
-        Hourbook h = plain();
+        Real h = plain();
         h.entry(0, 0, 0, 0, 0, 100);
         C.index("5: project 1, and wrong percents", () -> h.setTerms(1, -1, 0));
         C.argument("5: discount -1", () -> h.setTerms(0, -1, 0));
@@ -172,7 +172,7 @@ public final class PromiseTest {
     }
 
     private static void rule() {
-        Hourbook h = new Hourbook();
+        Real h = new Real();
         h.project(0, false);
         h.entry(5, 0, 3, 364, 0, 1440);
         h.entry(0, 0, 0, 0, 0, 1440);
@@ -200,7 +200,7 @@ public final class PromiseTest {
     }
 
     private static void aim() {
-        Hourbook h = plain();
+        Real h = plain();
         h.project(0, false);
         h.entry(2, 1, 3, 0, 0, 60);
         C.index("7: rule 1, and a wrong person", () -> h.aim(1, 6, 0, 0));
@@ -231,13 +231,13 @@ public final class PromiseTest {
         C.is("7: a project that came later", h.rate(1, 0), 6000);
     }
 
-    private static void aimed(Hourbook h, int person, int project, int kind, int due) {
+    private static void aimed(Real h, int person, int project, int kind, int due) {
         h.aim(0, person, project, kind);
         C.is("7: aim at " + person + ", " + project + ", " + kind, h.rate(0, 0), due);
     }
 
     private static void time() {
-        Hourbook h = plain();
+        Real h = plain();
         C.index("8: rule 1, and a wrong day", () -> h.time(1, -1, 0, 0, 0, 1));
         C.argument("8: first day -1", () -> h.time(0, -1, 364, 0, 0, 1440));
         C.argument("8: first day 365", () -> h.time(0, 365, 365, 0, 0, 1440));
@@ -277,7 +277,7 @@ public final class PromiseTest {
         onDays(h, "ten minutes inside", 1000, 1000, 1000, 1000);
     }
 
-    private static void onDays(Hourbook h, String title, int day4, int day5, int day6, int day7) {
+    private static void onDays(Real h, String title, int day4, int day5, int day6, int day7) {
         int[] due = {day4, day5, day6, day7};
         for (int k = 0; k < due.length; k++) {
             C.is("8: " + title + ", day " + (4 + k), h.ofEntry(k, 7), due[k]);
@@ -285,7 +285,7 @@ public final class PromiseTest {
     }
 
     private static void dropRule() {
-        Hourbook h = plain();
+        Real h = plain();
         h.rule(true, 1200);
         h.rule(false, 50);
         h.entry(0, 0, 0, 0, 0, 60);
@@ -310,7 +310,7 @@ public final class PromiseTest {
     }
 
     private static void entry() {
-        Hourbook h = plain();
+        Real h = plain();
         C.index("10: project 1, and a wrong person", () -> h.entry(6, 1, 0, 0, 0, 1));
         C.index("10: project -1", () -> h.entry(0, -1, 0, 0, 0, 1));
         C.argument("10: person -1", () -> h.entry(-1, 0, 0, 0, 0, 1));
@@ -349,7 +349,7 @@ public final class PromiseTest {
     }
 
     private static void change() {
-        Hourbook h = plain();
+        Real h = plain();
         h.entry(0, 0, 0, 0, 100, 200);
         h.entry(0, 0, 0, 0, 300, 400);
         h.entry(1, 0, 0, 0, 0, 1440);
@@ -372,7 +372,7 @@ public final class PromiseTest {
     }
 
     private static void changeOfBilled() {
-        Hourbook h = new Hourbook();
+        Real h = new Real();
         h.project(5000, true);
         h.rule(true, 6000);
         h.entry(0, 0, 0, 0, 0, 60);
@@ -400,7 +400,7 @@ public final class PromiseTest {
     }
 
     private static void take() {
-        Hourbook h = plain();
+        Real h = plain();
         h.entry(0, 0, 0, 0, 0, 60);
         h.entry(0, 0, 0, 1, 0, 60);
         h.entry(0, 0, 0, 2, 0, 60);
@@ -425,7 +425,7 @@ public final class PromiseTest {
     }
 
     private static void many() {
-        Hourbook h = plain();
+        Real h = plain();
         C.argument("13: what -1", () -> h.many(-1));
         C.argument("13: what 4", () -> h.many(4));
         h.project(0, false);
@@ -446,7 +446,7 @@ public final class PromiseTest {
     }
 
     private static void ofEntry() {
-        Hourbook h = new Hourbook();
+        Real h = new Real();
         h.project(0, false);
         h.project(5000, false);
         h.rule(true, 6000);
@@ -468,14 +468,14 @@ public final class PromiseTest {
                 new int[] {4, 1, 3, 200, 600, 661, 90, 9900, 7500, 0, 1});
     }
 
-    private static void facts(Hourbook h, String title, int[] due) {
+    private static void facts(Real h, String title, int[] due) {
         for (int what = 0; what < due.length; what++) {
             C.is("14: ofEntry(1, " + what + ") " + title, h.ofEntry(1, what), due[what]);
         }
     }
 
     private static void amounts() {
-        Hourbook h = new Hourbook();
+        Real h = new Real();
         h.project(0, false);
         h.rule(true, 1);
         h.entry(0, 0, 0, 0, 0, 30);
@@ -496,7 +496,7 @@ public final class PromiseTest {
         h.setStep(0, 30, 0);
         C.is("14: times rounded, by its length", h.ofEntry(0, 7), (20 * 6000 + 25 * 50000) * 60 / (60 * 50));
         parts();
-        Hourbook most = new Hourbook();
+        Real most = new Real();
         most.project(0, false);
         most.rule(true, 50000);
         for (int k = 0; k < 9; k++) {
@@ -516,7 +516,7 @@ public final class PromiseTest {
 
     /** Ten rules that all begin and end inside of one entry, each at a minute of its own: 21 rates. */
     private static void parts() {
-        Hourbook h = new Hourbook();
+        Real h = new Real();
         h.project(0, false);
         h.entry(0, 0, 0, 0, 0, 1440);
         for (int k = 0; k < 10; k++) {
@@ -536,7 +536,7 @@ public final class PromiseTest {
     }
 
     private static void charges() {
-        Hourbook h = new Hourbook();
+        Real h = new Real();
         h.project(10000, true);
         h.rule(true, 6000);
         h.entry(3, 0, 0, 2, 600, 660);
@@ -575,7 +575,7 @@ public final class PromiseTest {
     }
 
     private static void rate() {
-        Hourbook h = plain();
+        Real h = plain();
         h.entry(0, 0, 0, 0, 100, 200);
         C.index("15: entry 1, and a wrong minute", () -> h.rate(1, -1));
         C.index("15: entry -1", () -> h.rate(-1, 100));
@@ -603,7 +603,7 @@ public final class PromiseTest {
         C.is("15: cut again", h.rate(0, 100), 1513);
         h.take(0);
         C.index("15: it is gone", () -> h.rate(0, 100));
-        Hourbook most = new Hourbook();
+        Real most = new Real();
         most.project(0, false);
         most.rule(true, 50000);
         most.rule(false, 200);
@@ -615,7 +615,7 @@ public final class PromiseTest {
     }
 
     private static void why() {
-        Hourbook h = plain();
+        Real h = plain();
         h.entry(0, 0, 0, 0, 100, 200);
         C.index("16: entry 1, and a wrong minute", () -> h.why(1, -1));
         C.argument("16: minute 99", () -> h.why(0, 99));
@@ -640,7 +640,7 @@ public final class PromiseTest {
     }
 
     private static void ofProject() {
-        Hourbook h = new Hourbook();
+        Real h = new Real();
         h.project(10000, false);
         h.project(0, true);
         h.rule(true, 6000);
@@ -666,14 +666,14 @@ public final class PromiseTest {
         project(h, "with all billed", 0, new int[] {91, 12000, 0, -2000, 0, 0});
     }
 
-    private static void project(Hourbook h, String title, int project, int[] due) {
+    private static void project(Real h, String title, int project, int[] due) {
         for (int what = 0; what < due.length; what++) {
             C.is("17: ofProject(" + project + ", " + what + ") " + title, h.ofProject(project, what), due[what]);
         }
     }
 
     private static void worked() {
-        Hourbook h = plain();
+        Real h = plain();
         h.setStep(0, 30, 1);
         h.project(0, false);
         h.entry(0, 0, 0, 0, 0, 1);
@@ -701,7 +701,7 @@ public final class PromiseTest {
     }
 
     private static void bill() {
-        Hourbook h = plain();
+        Real h = plain();
         h.project(0, false);
         C.index("19: project 2, and a wrong day", () -> h.bill(2, -1));
         C.index("19: project -1", () -> h.bill(-1, 0));
@@ -728,7 +728,7 @@ public final class PromiseTest {
     }
 
     private static void billLimit() {
-        Hourbook h = plain();
+        Real h = plain();
         for (int k = 0; k < 20; k++) {
             h.entry(0, 0, 0, k, 0, 60);
             C.is("19: bill " + k, h.bill(0, k), k);
@@ -742,7 +742,7 @@ public final class PromiseTest {
     }
 
     private static void takeBack() {
-        Hourbook h = plain();
+        Real h = plain();
         h.project(0, false);
         for (int day = 0; day < 4; day++) {
             h.entry(0, day % 2, 0, day, 0, 60);
@@ -768,7 +768,7 @@ public final class PromiseTest {
     }
 
     private static void takeBackOfCorrections() {
-        Hourbook h = plain();
+        Real h = plain();
         h.entry(0, 0, 0, 0, 0, 60);
         h.entry(1, 0, 0, 5, 0, 60);
         h.bill(0, 0);
@@ -791,7 +791,7 @@ public final class PromiseTest {
         C.is("20: all are dropped", h.ofProject(0, 5), 0);
         C.is("20: with the minutes that it has", h.ofEntry(0, 5), 45);
         C.is("20: nothing waits", h.wouldBill(0, 5), 4500 + 1000);
-        Hourbook zero = plain();
+        Real zero = plain();
         zero.entry(0, 0, 0, 0, 0, 60);
         zero.bill(0, 0);
         zero.change(0, 0, 60);
@@ -805,7 +805,7 @@ public final class PromiseTest {
     }
 
     private static void ofBill() {
-        Hourbook h = new Hourbook();
+        Real h = new Real();
         h.project(0, false);
         h.project(0, false);
         h.rule(true, 6000);
@@ -832,7 +832,7 @@ public final class PromiseTest {
     }
 
     private static void ofBillBelowNothing() {
-        Hourbook h = plain();
+        Real h = plain();
         h.entry(0, 0, 0, 0, 0, 60);
         h.bill(0, 0);
         h.change(0, 0, 45);
@@ -849,14 +849,14 @@ public final class PromiseTest {
         C.index("22: nor a line 0", () -> h.line(1, 0, 0));
     }
 
-    private static void bill(Hourbook h, String title, int bill, int[] due) {
+    private static void bill(Real h, String title, int bill, int[] due) {
         for (int what = 0; what < due.length; what++) {
             C.is("21: ofBill(" + bill + ", " + what + ") " + title, h.ofBill(bill, what), due[what]);
         }
     }
 
     private static void line() {
-        Hourbook h = new Hourbook();
+        Real h = new Real();
         h.project(9000, true);
         h.rule(true, 6000);
         h.setStep(0, 10, 0);
@@ -884,7 +884,7 @@ public final class PromiseTest {
         C.index("22: a bill that is taken back has none", () -> h.line(0, 0, 0));
     }
 
-    private static void lines(Hourbook h, String title, int[][] due) {
+    private static void lines(Real h, String title, int[][] due) {
         C.is("22: how many lines, " + title, h.ofBill(0, 1), due.length);
         for (int line = 0; line < due.length; line++) {
             for (int what = 0; what <= 3; what++) {
@@ -894,7 +894,7 @@ public final class PromiseTest {
     }
 
     private static void wouldBill() {
-        Hourbook h = new Hourbook();
+        Real h = new Real();
         h.project(7000, true);
         h.rule(true, 6000);
         C.index("23: project 1, and a wrong day", () -> h.wouldBill(1, -1));
@@ -918,7 +918,7 @@ public final class PromiseTest {
     }
 
     private static void without() {
-        Hourbook h = plain();
+        Real h = plain();
         h.project(0, false);
         h.rule(true, 9000);
         h.rule(false, 50);
@@ -942,7 +942,7 @@ public final class PromiseTest {
     }
 
     private static void amountsWith() {
-        Hourbook h = plain();
+        Real h = plain();
         h.rule(false, 50);
         h.project(100, true);
         h.entry(0, 0, 0, 0, 0, 60);
@@ -966,7 +966,7 @@ public final class PromiseTest {
     }
 
     private static void overOn() {
-        Hourbook h = new Hourbook();
+        Real h = new Real();
         h.project(6000, false);
         h.project(1, false);
         h.rule(true, 6000);
@@ -990,7 +990,7 @@ public final class PromiseTest {
     }
 
     private static void meanRate() {
-        Hourbook h = plain();
+        Real h = plain();
         C.is("27: without any", h.meanRate(), 0.0);
         h.entry(0, 0, 0, 0, 0, 60);
         C.is("27: one", h.meanRate(), 6000.0);
@@ -1006,7 +1006,7 @@ public final class PromiseTest {
     }
 
     private static void digest() {
-        Hourbook h = new Hourbook();
+        Real h = new Real();
         h.project(0, false);
         C.is("28: a project", h.digest(), mixed(1, 0, 0, 0, 0, 0, 0, 0, 0, 0, -1));
         h.rule(true, 6000);
@@ -1035,7 +1035,7 @@ public final class PromiseTest {
 
     /** What has the greatest number that there can be, and what has one more. */
     private static void lastOfAll() {
-        Hourbook h = new Hourbook();
+        Real h = new Real();
         for (int k = 0; k < 6; k++) {
             h.project(0, false);
         }
@@ -1072,7 +1072,7 @@ public final class PromiseTest {
     }
 
     private static void manyCorrections() {
-        Hourbook h = plain();
+        Real h = plain();
         for (int k = 0; k < 60; k++) {
             h.entry(0, 0, 0, k, 0, 60);
         }
@@ -1090,7 +1090,7 @@ public final class PromiseTest {
         C.is("20: all wait again", h.ofProject(0, 5), 1000);
         h.bill(0, 0);
         C.is("21: the sum of them again", h.ofBill(2, 6), 1000);
-        Hourbook none = plain();
+        Real none = plain();
         none.entry(0, 0, 0, 0, 0, 60);
         none.entry(0, 0, 1, 1, 0, 60);
         none.bill(0, 0);
@@ -1103,7 +1103,7 @@ public final class PromiseTest {
     }
 
     private static void throwingChangesNothing() {
-        Hourbook h = plain();
+        Real h = plain();
         h.entry(0, 0, 0, 0, 0, 60);
         h.entry(0, 0, 0, 1, 0, 60);
         h.entry(0, 0, 0, 1, 60, 120);
