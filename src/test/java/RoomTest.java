@@ -3,7 +3,8 @@ import java.lang.management.ManagementFactory;
 /** Whatever the arguments, and also past 512 calls, only documented exceptions get out; and a full run stays small. */
 public final class RoomTest {
     private static final int CALLS = 60000;
-    private static final int MOST_BYTES = 100000;
+    /** No more objects and elements than these bytes can be made of them: there is room for 7.3 million elements. */
+    private static final int MOST_BYTES = 7300000;
     private static final Check CHECK = new Check("RoomTest");
     private static final int[] ODD = {Integer.MIN_VALUE, Integer.MIN_VALUE + 1, -1000, -2, -1, 6, 10, 20, 60, 61, 364,
         365, 1439, 1440, 1441, 50000, 10000000, 10000001, Integer.MAX_VALUE - 1, Integer.MAX_VALUE};
