@@ -63,9 +63,8 @@ public final class FaceTest {
             insides(inside);
         }
         CHECK.is("not too many classes", Hourbook.class.getDeclaredClasses().length < MOST_CLASSES, true);
-        if (args.length > 0) {
-            text(Files.readAllLines(Path.of(args[0]), StandardCharsets.ISO_8859_1));
-        }
+        Path main = Path.of(args.length > 0 ? args[0] : ".", "src", "main", "java", "Hourbook.java");
+        text(Files.readAllLines(main, StandardCharsets.ISO_8859_1));
         CHECK.end();
     }
 
